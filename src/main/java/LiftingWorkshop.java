@@ -138,7 +138,7 @@ public final class LiftingWorkshop {
             throw new IllegalArgumentException("levels are 1 to 3");
         }
         joinBranch(ROOT);
-        splitAllAbove(1 << levels);
+        splitNodesBelow(1 << levels);
         joinWhereLeafCostsNoMore();
         return branchCost(ROOT);
     }
@@ -386,7 +386,7 @@ public final class LiftingWorkshop {
         return joined;
     }
 
-    private void splitAllAbove(int firstKept) {
+    private void splitNodesBelow(int firstKept) {
         for (int node = ROOT; node < firstKept && node < costAsLeaf.length; node++) {
             if (tree.exists(node)) {
                 costAsLeaf[node] = branchCost(node);
@@ -534,7 +534,7 @@ public final class LiftingWorkshop {
         }
 
         boolean exists(int node) {
-            return node == ROOT || node > ROOT && node < NODES && hasChildren(node / 2);
+            return node == ROOT || (node > ROOT && node < NODES && hasChildren(node / 2));
         }
 
         boolean hasChildren(int node) {
@@ -650,7 +650,7 @@ public final class LiftingWorkshop {
             return wavelet == NINE_SEVEN ? 4 : 2;
         }
 
-        /** Does one step, or takes it back if the sign is -1: odds change first, then in turn. */
+        /** Does a step, or takes it back if the sign is -1; odds and evens change by turns. */
         private void lift(Row row, int start, int half, int step, int sign) {
             int odds = start + half;
             for (int k = 0; k < half; k++) {
@@ -713,7 +713,7 @@ public final class LiftingWorkshop {
         }
 
         int bit(int position) {
-            return position >= 0 && position < count && position < bits.length ? bits[position] : 0;
+            return position >= 0 && position < count && position < MOST_BITS ? bits[position] : 0;
         }
 
         /** Writes the code of a row, whose first numbers are the leaf of low bands alone. */
@@ -734,7 +734,7 @@ public final class LiftingWorkshop {
 
         /** Lets a row know what a bit tells; answers whether it told anything. */
         boolean tell(int position, Row listener) {
-            if (position < 0 || position >= count || position >= bits.length) {
+            if (position < 0 || position >= count || position >= MOST_BITS) {
                 return false;
             }
             int place = toldPlaces[position];
@@ -814,7 +814,7 @@ public final class LiftingWorkshop {
         }
 
         private void putTelling(int bit, int place, int plane) {
-            if (count >= 0 && count < bits.length) {
+            if (count >= 0 && count < MOST_BITS) {
                 bits[count] = (byte) bit;
                 toldPlaces[count] = (byte) place;
                 toldPlanes[count] = (byte) plane;

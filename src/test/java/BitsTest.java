@@ -184,6 +184,8 @@ public final class BitsTest {
         Check.same("28: error 0", x.bitsFor(0), 16);
         Check.same("28: a great error", x.bitsFor(Integer.MAX_VALUE), 0);
         Check.same("28: of zeros", new LiftingWorkshop().bitsFor(0), 0);
+        Check.same("26: all bits", x.broughtBack(16, 1), 2);
+        Check.same("28: what was read before does not count", x.bitsFor(0), 16);
         LiftingWorkshop exact = bands(0, 0, 3, -1, 0);
         Check.same("28: exact before the last bit", exact.bitsFor(0), 14);
         // The error goes up when a digit is known: 6 is guessed at first, 7 only then.

@@ -145,6 +145,10 @@ public final class NumbersTest {
         Check.same("19: only that band", Check.numbers(x, 2) + " | " + Check.numbers(x, 3),
                 "0 0 0 -4 | 0 -12 0 0");
         Check.same("19: the greatest threshold", x.hard(3, 100000), 1);
+        x.setNumber(3, 0, 1);
+        Check.same("19: a low band", x.hard(2, 100000), 1);
+        Check.same("19: and only that one", Check.numbers(x, 3), "1 0 0 0");
+        x.setNumber(3, 0, 0);
         x.setNumber(3, 1, -100000);
         Check.same("19: equal to the threshold", x.hard(3, 100000), 1);
         LiftingWorkshop great = Check.with(0, 0, 0, 0, 0);

@@ -37,6 +37,10 @@ public final class TreeTest {
         Check.same("7: split", nine.split(1), 2);
         Check.same("7: 9/7 low", Check.numbers(nine, 2), "74 -8");
         Check.same("7: 9/7 high", Check.numbers(nine, 3), "-49 14");
+        splitNine("100000 -99999 54321 7 -100000 3 31415 99991",
+                "-8576 12339 -78082 61235", "-163556 36395 34662 45591");
+        // Here it matters that 2048 is added, no less.
+        splitNine("28681 43904 25897 60972", "44286 48359", "12493 30515");
 
         LiftingWorkshop pair = Check.with(1, 4, 9, 0, 0);
         pair.split(1);
@@ -45,6 +49,21 @@ public final class TreeTest {
         pair.split(2);
         Check.same("7: 5/3 of two numbers, high", Check.numbers(pair, 5), "5");
         Check.same("7: 5/3 of two numbers, low", Check.numbers(pair, 4), "7");
+    }
+
+    private static void splitNine(String numbers, String low, String high) {
+        String[] row = numbers.split(" ");
+        LiftingWorkshop x = new LiftingWorkshop();
+        x.begin(row.length);
+        x.setWavelet(2);
+        for (int place = 0; place < row.length; place++) {
+            x.setNumber(1, place, Integer.parseInt(row[place]));
+        }
+        x.split(1);
+        Check.same("7: 9/7 of great numbers, low", Check.numbers(x, 2), low);
+        Check.same("7: 9/7 of great numbers, high", Check.numbers(x, 3), high);
+        x.join(1);
+        Check.same("8: 9/7 taken back", Check.numbers(x, 1), numbers);
     }
 
     private static void promise7SplitTree() {
@@ -72,6 +91,9 @@ public final class TreeTest {
         Check.same("7: split 3 of 32", big.split(3), 8);
         Check.same("7: split 7 of 32", big.split(7), 4);
         Check.refused("7: 4 numbers, but number 15", big, STATE, () -> big.split(15));
+        big.split(2);
+        big.split(4);
+        Check.refused("7: 4 numbers, but number 8", big, STATE, () -> big.split(8));
     }
 
     private static void promise8Join() {
