@@ -18,24 +18,8 @@ public final class BitsTest {
         Check.end();
     }
 
-    /** Four samples, split to a tree of these numbers, in the order of the leaves. */
     private static LiftingWorkshop bands(int splits, int... row) {
-        LiftingWorkshop x = new LiftingWorkshop();
-        x.begin(row.length);
-        int node = 1;
-        for (int split = 0; split < splits; split++) {
-            x.split(node);
-            node *= 2;
-        }
-        int place = 0;
-        for (int leaf = 0; leaf < x.leaves(); leaf++) {
-            int size = x.sizeOf(x.leafAt(leaf));
-            for (int k = 0; k < size; k++) {
-                x.setNumber(x.leafAt(leaf), k, row[place]);
-                place++;
-            }
-        }
-        return x;
+        return Check.bands(0, splits, row);
     }
 
     private static LiftingWorkshop noPyramid() {

@@ -4,10 +4,7 @@ import java.util.Random;
 public final class ModelTest {
     private static final int RUNS = 1500;
     private static final int MOST_CALLS = 512;
-    private static final String[] NAMES = {"begin", "setSample", "sample", "length", "setWavelet",
-        "split", "join", "isNode", "isLeaf", "leaves", "leafAt", "costOf", "chooseBasis", "sizeOf",
-        "number", "setNumber", "filtered", "hard", "soft", "risk", "bestThreshold", "isPyramid",
-        "bits", "bitAt", "broughtBack", "errorWith", "bitsFor"};
+    private static final String[] NAMES = Calls.NAMES;
     /** How often each of the calls is made. */
     private static final int[] WEIGHTS = {1, 30, 8, 1, 3, 14, 5, 3, 3, 3, 4, 5, 2, 3,
         6, 10, 6, 2, 2, 4, 4, 3, 3, 8, 8, 4, 1};
@@ -37,8 +34,8 @@ public final class ModelTest {
         for (int made = 0; made < calls; made++) {
             int call = draw(random);
             int[] given = arguments(random, call, loudness, (int) model.length());
-            String got = answer(() -> ofProgram(x, call, given));
-            String due = answer(() -> ofModel(model, call, given));
+            String got = Calls.answer(() -> Calls.ofProgram(x, call, given));
+            String due = Calls.answer(() -> Calls.ofModel(model, call, given));
             story.append(NAMES[call]).append(java.util.Arrays.toString(given)).append(' ');
             if (due.matches("-?[0-9]+")) {
                 answered[call]++;
@@ -152,82 +149,6 @@ public final class ModelTest {
             case 4 -> -1;
             case 5 -> 0;
             default -> value;
-        };
-    }
-
-    private interface Answer {
-        long give();
-    }
-
-    private static String answer(Answer answer) {
-        try {
-            return Long.toString(answer.give());
-        } catch (RuntimeException e) {
-            return e.getClass().getSimpleName();
-        }
-    }
-
-    private static long ofProgram(LiftingWorkshop x, int call, int[] g) {
-        return switch (NAMES[call]) {
-            case "begin" -> x.begin(g[0]);
-            case "setSample" -> x.setSample(g[0], g[1]);
-            case "sample" -> x.sample(g[0]);
-            case "length" -> x.length();
-            case "setWavelet" -> x.setWavelet(g[0]);
-            case "split" -> x.split(g[0]);
-            case "join" -> x.join(g[0]);
-            case "isNode" -> x.isNode(g[0]) ? 1 : 0;
-            case "isLeaf" -> x.isLeaf(g[0]) ? 1 : 0;
-            case "leaves" -> x.leaves();
-            case "leafAt" -> x.leafAt(g[0]);
-            case "costOf" -> x.costOf(g[0]);
-            case "chooseBasis" -> x.chooseBasis(g[0]);
-            case "sizeOf" -> x.sizeOf(g[0]);
-            case "number" -> x.number(g[0], g[1]);
-            case "setNumber" -> x.setNumber(g[0], g[1], g[2]);
-            case "filtered" -> x.filtered(g[0], g[1]);
-            case "hard" -> x.hard(g[0], g[1]);
-            case "soft" -> x.soft(g[0], g[1]);
-            case "risk" -> x.risk(g[0], g[1], g[2]);
-            case "bestThreshold" -> x.bestThreshold(g[0], g[1]);
-            case "isPyramid" -> x.isPyramid() ? 1 : 0;
-            case "bits" -> x.bits();
-            case "bitAt" -> x.bitAt(g[0]);
-            case "broughtBack" -> x.broughtBack(g[0], g[1]);
-            case "errorWith" -> x.errorWith(g[0]);
-            default -> x.bitsFor(g[0]);
-        };
-    }
-
-    private static long ofModel(PlainModel x, int call, int[] g) {
-        return switch (NAMES[call]) {
-            case "begin" -> x.begin(g[0]);
-            case "setSample" -> x.setSample(g[0], g[1]);
-            case "sample" -> x.sample(g[0]);
-            case "length" -> x.length();
-            case "setWavelet" -> x.setWavelet(g[0]);
-            case "split" -> x.split(g[0]);
-            case "join" -> x.join(g[0]);
-            case "isNode" -> x.isNode(g[0]);
-            case "isLeaf" -> x.isLeaf(g[0]);
-            case "leaves" -> x.leaves();
-            case "leafAt" -> x.leafAt(g[0]);
-            case "costOf" -> x.costOf(g[0]);
-            case "chooseBasis" -> x.chooseBasis(g[0]);
-            case "sizeOf" -> x.sizeOf(g[0]);
-            case "number" -> x.number(g[0], g[1]);
-            case "setNumber" -> x.setNumber(g[0], g[1], g[2]);
-            case "filtered" -> x.filtered(g[0], g[1]);
-            case "hard" -> x.hard(g[0], g[1]);
-            case "soft" -> x.soft(g[0], g[1]);
-            case "risk" -> x.risk(g[0], g[1], g[2]);
-            case "bestThreshold" -> x.bestThreshold(g[0], g[1]);
-            case "isPyramid" -> x.isPyramid();
-            case "bits" -> x.bits();
-            case "bitAt" -> x.bitAt(g[0]);
-            case "broughtBack" -> x.broughtBack(g[0], g[1]);
-            case "errorWith" -> x.errorWith(g[0]);
-            default -> x.bitsFor(g[0]);
         };
     }
 }
