@@ -120,6 +120,9 @@ final class Check {
     static String stateOf(LiftingWorkshop x) {
         StringBuilder state = new StringBuilder();
         state.append(x.length()).append(':');
+        if (x.length() > 32) {
+            return state.append(" no signal is so long").toString();
+        }
         for (int place = 0; place < x.length(); place++) {
             state.append(' ').append(x.sample(place));
         }
