@@ -99,15 +99,19 @@ public final class BitsTest {
 
     private static void promise24And25Refusals() {
         LiftingWorkshop x = noPyramid();
-        Check.refused("24: no pyramid", x, STATE, () -> x.bits());
+        String untouched = Check.stateOf(x);
+        Check.refused("24: no pyramid", STATE, () -> x.bits());
         for (int place : new int[] {0, -1, 1000, Integer.MAX_VALUE, Integer.MIN_VALUE}) {
-            Check.refused("25: no pyramid", x, STATE, () -> x.bitAt(place));
+            Check.refused("25: no pyramid", STATE, () -> x.bitAt(place));
         }
+        Check.same("25: refused calls leave", Check.stateOf(x), untouched);
         LiftingWorkshop y = bands(2, 1, 0, 0, 0);
         Check.same("25: the last bit", y.bitAt(9), 0);
+        String ofY = Check.stateOf(y);
         for (int place : new int[] {-1, 10, 11, 5000, Integer.MAX_VALUE, Integer.MIN_VALUE}) {
-            Check.refused("25: bit " + place, y, INDEX, () -> y.bitAt(place));
+            Check.refused("25: bit " + place, INDEX, () -> y.bitAt(place));
         }
+        Check.same("25: refused calls leave the pyramid", Check.stateOf(y), ofY);
     }
 
     private static void promise26BroughtBack() {
@@ -181,20 +185,24 @@ public final class BitsTest {
 
     private static void refusalsOfReading() {
         LiftingWorkshop x = noPyramid();
-        Check.refused("26: no pyramid first", x, STATE, () -> x.broughtBack(-1, 8));
-        Check.refused("27: no pyramid first", x, STATE, () -> x.errorWith(-1));
-        Check.refused("28: no pyramid first", x, STATE, () -> x.bitsFor(-1));
-        Check.refused("26: no pyramid", x, STATE, () -> x.broughtBack(0, 0));
-        Check.refused("27: no pyramid", x, STATE, () -> x.errorWith(0));
-        Check.refused("28: no pyramid", x, STATE, () -> x.bitsFor(0));
+        String untouched = Check.stateOf(x);
+        Check.refused("26: no pyramid first", STATE, () -> x.broughtBack(-1, 8));
+        Check.refused("27: no pyramid first", STATE, () -> x.errorWith(-1));
+        Check.refused("28: no pyramid first", STATE, () -> x.bitsFor(-1));
+        Check.refused("26: no pyramid", STATE, () -> x.broughtBack(0, 0));
+        Check.refused("27: no pyramid", STATE, () -> x.errorWith(0));
+        Check.refused("28: no pyramid", STATE, () -> x.bitsFor(0));
+        Check.same("26 to 28: refused calls leave", Check.stateOf(x), untouched);
         x.join(3);
+        untouched = Check.stateOf(x);
         for (int less : new int[] {-1, -6, Integer.MIN_VALUE}) {
-            Check.refused("26: bits first", x, ARGUMENT, () -> x.broughtBack(less, 8));
-            Check.refused("27: bits", x, ARGUMENT, () -> x.errorWith(less));
-            Check.refused("28: error", x, ARGUMENT, () -> x.bitsFor(less));
+            Check.refused("26: bits first", ARGUMENT, () -> x.broughtBack(less, 8));
+            Check.refused("27: bits", ARGUMENT, () -> x.errorWith(less));
+            Check.refused("28: error", ARGUMENT, () -> x.bitsFor(less));
         }
         for (int place : new int[] {-1, 8, 32, Integer.MAX_VALUE, Integer.MIN_VALUE}) {
-            Check.refused("26: place " + place, x, INDEX, () -> x.broughtBack(0, place));
+            Check.refused("26: place " + place, INDEX, () -> x.broughtBack(0, place));
         }
+        Check.same("26 to 28: refused calls leave the pyramid", Check.stateOf(x), untouched);
     }
 }

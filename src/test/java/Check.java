@@ -26,8 +26,12 @@ final class Check {
     static final int[] PARENTS_OF_LOPSIDED = {1, 3, 6};
     private static final Path DOCUMENT = Path.of("../shared/DOC.md");
 
+    private static final int MOST_CALLS = 512;
+
     private static int wrong = 0;
     private static String held = "";
+    private static LiftingWorkshop lookedAt = null;
+    private static int callsOfLooks = 0;
 
     private Check() {
     }
@@ -75,6 +79,15 @@ final class Check {
     /** The call throws just this exception, and the object is the same before and after. */
     static void refused(String what, LiftingWorkshop x, Class<?> due, Call call) {
         String before = stateOf(x);
+        refused(what, due, call);
+        same(what + " leaves", stateOf(x), before);
+    }
+
+    /**
+     * The call throws just this exception. To look at all of an object takes some fifty calls; so
+     * where many calls are refused, the test looks at it once before them and once behind.
+     */
+    static void refused(String what, Class<?> due, Call call) {
         String thrown = "nothing";
         try {
             call.make();
@@ -82,7 +95,6 @@ final class Check {
             thrown = e.getClass().getSimpleName();
         }
         same(what + " throws", thrown, due.getSimpleName());
-        same(what + " leaves", stateOf(x), before);
     }
 
     /**
@@ -118,18 +130,21 @@ final class Check {
     }
 
     static String stateOf(LiftingWorkshop x) {
+        int length = x.length();
         StringBuilder state = new StringBuilder();
-        state.append(x.length()).append(':');
-        if (x.length() > 32) {
+        state.append(length).append(':');
+        if (length > 32) {
             return state.append(" no signal is so long").toString();
         }
-        for (int place = 0; place < x.length(); place++) {
+        for (int place = 0; place < length; place++) {
             state.append(' ').append(x.sample(place));
         }
-        for (int leaf = 0; leaf < x.leaves(); leaf++) {
+        int leaves = x.leaves();
+        for (int leaf = 0; leaf < leaves; leaf++) {
             int node = x.leafAt(leaf);
+            int size = x.sizeOf(node);
             state.append(" | ").append(node).append(':');
-            for (int place = 0; place < x.sizeOf(node); place++) {
+            for (int place = 0; place < size; place++) {
                 state.append(' ').append(x.number(node, place));
             }
         }
@@ -138,7 +153,17 @@ final class Check {
             x.setWavelet(wavelet);
             state.append(" | wavelet ").append(wavelet);
         }
+        countLook(x, 5 + 2 * length + 2 * leaves);
         return state.toString();
+    }
+
+    /** What an object answers after 512 calls is free, so no test may look at one so often. */
+    private static void countLook(LiftingWorkshop x, int calls) {
+        callsOfLooks = x == lookedAt ? callsOfLooks + calls : calls;
+        lookedAt = x;
+        if (callsOfLooks > MOST_CALLS) {
+            report("to look at one object took more than " + MOST_CALLS + " calls");
+        }
     }
 
     /** Joins the tree in the end: the wavelet of a split one cannot be asked for. */

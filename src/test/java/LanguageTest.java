@@ -9,76 +9,56 @@ import java.util.TreeSet;
 import java.util.regex.Matcher;
 import java.util.regex.Pattern;
 
-/** The face of the class, and those rules of LANGUAGE.md that a look at the source can tell. */
+/** Those rules of LANGUAGE.md that a look at the class and at its source can tell. */
 public final class LanguageTest {
     private static final String INDEX = "IndexOutOfBoundsException";
     private static final String ARGUMENT = "IllegalArgumentException";
     private static final String STATE = "IllegalStateException";
-    private static final String[] FACE = {
-        face("int begin(int)", ARGUMENT),
-        face("long setSample(int,int)", INDEX, ARGUMENT, STATE),
-        face("long sample(int)", INDEX),
-        face("int length()"),
-        face("int setWavelet(int)", ARGUMENT, STATE),
-        face("int split(int)", INDEX, STATE),
-        face("int join(int)", INDEX, STATE),
-        face("boolean isNode(int)"),
-        face("boolean isLeaf(int)", INDEX),
-        face("int leaves()"),
-        face("int leafAt(int)", INDEX),
-        face("int costOf(int)", INDEX),
-        face("int chooseBasis(int)", ARGUMENT),
-        face("int sizeOf(int)", INDEX, STATE),
-        face("long number(int,int)", INDEX, STATE),
-        face("long setNumber(int,int,int)", INDEX, STATE, ARGUMENT),
-        face("long filtered(int,int)", INDEX, STATE),
-        face("int hard(int,int)", INDEX, ARGUMENT, STATE),
-        face("int soft(int,int)", INDEX, ARGUMENT, STATE),
-        face("long risk(int,int,int)", INDEX, ARGUMENT, STATE),
-        face("long bestThreshold(int,int)", INDEX, ARGUMENT, STATE),
-        face("boolean isPyramid()"),
-        face("int bits()", STATE),
-        face("int bitAt(int)", STATE, INDEX),
-        face("long broughtBack(int,int)", STATE, ARGUMENT, INDEX),
-        face("long errorWith(int)", STATE, ARGUMENT),
-        face("int bitsFor(int)", STATE, ARGUMENT)};
     private static final String[] RULED_OUT = {"^\\s*import ", "^\\s*package ", "->", "::", "\\bcatch\\b",
         "\\btry\\b", "\\bfinally\\b", "\\bsynchronized\\b", "\\bassert\\b", "\\binstanceof\\b",
         "\\w*Exact\\b", "\\bString\\b", "\\bdouble\\b", "\\bfloat\\b", "\\bSystem\\b", "static \\{",
         "Math\\.(?!min\\b|max\\b|abs\\b)", "\\b(Long|Integer|Arrays)\\."};
 
     public static void main(String[] args) throws Exception {
-        methods();
+        names();
+        sizes(LiftingWorkshop.class);
+        Check.same("at most twelve classes", LiftingWorkshop.class.getDeclaredClasses().length <= 12,
+                true);
+        for (Class<?> inside : LiftingWorkshop.class.getDeclaredClasses()) {
+            sizes(inside);
+        }
         fieldsAndConstructors();
         source(Files.readString(Path.of(args.length > 0 ? args[0]
                 : "src/main/java/LiftingWorkshop.java")));
         Check.end();
     }
 
-    private static String face(String method, String... thrown) {
-        StringBuilder text = new StringBuilder("public ").append(method);
-        for (int k = 0; k < thrown.length; k++) {
-            text.append(k == 0 ? " throws " : ",").append(thrown[k]);
-        }
-        return text.toString();
-    }
-
-    private static void methods() {
-        Set<String> due = new TreeSet<>(Set.of(FACE));
+    /** No private method bears the name of a public one. */
+    private static void names() {
         Set<String> names = new TreeSet<>();
-        Set<String> got = new TreeSet<>();
         for (Method method : LiftingWorkshop.class.getDeclaredMethods()) {
             if (!Modifier.isPrivate(method.getModifiers())) {
-                got.add(method.toString().replace("java.lang.", "").replace("LiftingWorkshop.", ""));
                 names.add(method.getName());
             }
         }
-        Check.same("the face", got.toString(), due.toString());
         for (Method method : LiftingWorkshop.class.getDeclaredMethods()) {
             if (Modifier.isPrivate(method.getModifiers())) {
                 Check.same("a public name: " + method.getName(),
                         names.contains(method.getName()), false);
             }
+        }
+    }
+
+    private static void sizes(Class<?> type) {
+        int fields = 0;
+        for (Field field : type.getDeclaredFields()) {
+            if (!Modifier.isStatic(field.getModifiers())) {
+                fields++;
+            }
+        }
+        Check.same("at most twenty fields in " + type, fields <= 20, true);
+        for (Method method : type.getDeclaredMethods()) {
+            Check.same("at most seven parameters of " + method, method.getParameterCount() <= 7, true);
         }
     }
 

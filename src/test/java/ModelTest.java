@@ -3,7 +3,8 @@ import java.util.Random;
 /** Runs of calls, valid and wrong ones, with the same answers as the plain model gives. */
 public final class ModelTest {
     private static final int RUNS = 1500;
-    private static final int MOST_CALLS = 512;
+    /** An object is used for at most 512 calls; some are made before a run, and some behind it. */
+    private static final int MOST_CALLS = 512 - 100;
     private static final String[] NAMES = Calls.NAMES;
     /** How often each of the calls is made. */
     private static final int[] WEIGHTS = {1, 30, 8, 1, 3, 14, 5, 3, 3, 3, 4, 5, 2, 3,
@@ -28,7 +29,7 @@ public final class ModelTest {
         LiftingWorkshop x = new LiftingWorkshop();
         PlainModel model = new PlainModel();
         StringBuilder story = new StringBuilder();
-        int calls = 20 + random.nextInt(MOST_CALLS - 120);
+        int calls = 20 + random.nextInt(MOST_CALLS - 20);
         int loudness = random.nextInt(4);
         prepare(random, seed, x, model);
         for (int made = 0; made < calls; made++) {

@@ -35,11 +35,13 @@ public final class NumbersTest {
         Check.same("15: node 3 of 32", x.sizeOf(3), 16);
         Check.same("15: node 4 of 32", x.sizeOf(4), 8);
         Check.same("15: node 11 of 32", x.sizeOf(11), 4);
-        Check.refused("15: no leaf", x, STATE, () -> x.sizeOf(1));
-        Check.refused("15: no leaf 5", x, STATE, () -> x.sizeOf(5));
+        String untouched = Check.stateOf(x);
+        Check.refused("15: no leaf", STATE, () -> x.sizeOf(1));
+        Check.refused("15: no leaf 5", STATE, () -> x.sizeOf(5));
         for (int node : new int[] {0, -1, 6, 8, 16, Integer.MAX_VALUE, Integer.MIN_VALUE}) {
-            Check.refused("15: no node " + node, x, INDEX, () -> x.sizeOf(node));
+            Check.refused("15: no node " + node, INDEX, () -> x.sizeOf(node));
         }
+        Check.same("15: refused calls leave", Check.stateOf(x), untouched);
         x.begin(4);
         x.split(1);
         x.split(2);
@@ -51,14 +53,16 @@ public final class NumbersTest {
         Check.same("16: number", x.number(2, 0), 1);
         Check.same("16: number", x.number(3, 0), -7);
         Check.same("16: number", x.number(3, 3), 3);
+        String untouched = Check.stateOf(x);
         for (int place : new int[] {-1, 4, 8, Integer.MAX_VALUE, Integer.MIN_VALUE}) {
-            Check.refused("16: place " + place, x, INDEX, () -> x.number(3, place));
-            Check.refused("16: no leaf, so no places", x, STATE, () -> x.number(1, place));
+            Check.refused("16: place " + place, INDEX, () -> x.number(3, place));
+            Check.refused("16: no leaf, so no places", STATE, () -> x.number(1, place));
         }
         for (int node : NO_NODES) {
-            Check.refused("16: no node " + node, x, INDEX, () -> x.number(node, 0));
+            Check.refused("16: no node " + node, INDEX, () -> x.number(node, 0));
         }
-        Check.refused("16: no leaf", x, STATE, () -> x.number(1, 0));
+        Check.refused("16: no leaf", STATE, () -> x.number(1, 0));
+        Check.same("16: refused calls leave", Check.stateOf(x), untouched);
     }
 
     private static void promise17SetNumber() {
@@ -68,16 +72,18 @@ public final class NumbersTest {
         Check.same("17: number", x.number(3, 3), -100000);
         Check.same("17: others stay", Check.numbers(x, 2) + " " + x.number(3, 2), "1 7 0 1 0");
         Check.same("17: a sample becomes greater", x.sample(6), 1 + 50000);
+        String untouched = Check.stateOf(x);
         for (int value : new int[] {100001, -100001, Integer.MAX_VALUE, Integer.MIN_VALUE}) {
-            Check.refused("17: value " + value, x, ARGUMENT, () -> x.setNumber(2, 0, value));
-            Check.refused("17: place first", x, INDEX, () -> x.setNumber(2, 4, value));
-            Check.refused("17: no leaf first", x, STATE, () -> x.setNumber(1, 4, value));
+            Check.refused("17: value " + value, ARGUMENT, () -> x.setNumber(2, 0, value));
+            Check.refused("17: place first", INDEX, () -> x.setNumber(2, 4, value));
+            Check.refused("17: no leaf first", STATE, () -> x.setNumber(1, 4, value));
         }
-        Check.refused("17: place -1", x, INDEX, () -> x.setNumber(2, -1, 0));
-        Check.refused("17: no leaf", x, STATE, () -> x.setNumber(1, 0, 0));
+        Check.refused("17: place -1", INDEX, () -> x.setNumber(2, -1, 0));
+        Check.refused("17: no leaf", STATE, () -> x.setNumber(1, 0, 0));
         for (int node : NO_NODES) {
-            Check.refused("17: no node " + node, x, INDEX, () -> x.setNumber(node, 0, 100001));
+            Check.refused("17: no node " + node, INDEX, () -> x.setNumber(node, 0, 100001));
         }
+        Check.same("17: refused calls leave", Check.stateOf(x), untouched);
     }
 
     private static void promise18Filtered() {
@@ -108,16 +114,20 @@ public final class NumbersTest {
 
     private static void promise18FilteredRefusals() {
         LiftingWorkshop x = Check.with(0, 5, -2, 7, 8, 0, 0, 0, 3);
+        String untouched = Check.stateOf(x);
         for (int k : new int[] {-1, 4, 8, Integer.MAX_VALUE, Integer.MIN_VALUE}) {
-            Check.refused("18: k " + k, x, INDEX, () -> x.filtered(1, k));
+            Check.refused("18: k " + k, INDEX, () -> x.filtered(1, k));
         }
+        Check.same("18: refused calls leave", Check.stateOf(x), untouched);
         x.split(1);
         x.split(2);
         x.split(4);
-        Check.refused("18: no leaf", x, STATE, () -> x.filtered(1, 0));
-        Check.refused("18: no leaf, so no places", x, STATE, () -> x.filtered(1, 9));
-        Check.refused("18: one number", x, INDEX, () -> x.filtered(8, 0));
-        Check.refused("18: no node", x, INDEX, () -> x.filtered(6, 0));
+        untouched = Check.stateOf(x);
+        Check.refused("18: no leaf", STATE, () -> x.filtered(1, 0));
+        Check.refused("18: no leaf, so no places", STATE, () -> x.filtered(1, 9));
+        Check.refused("18: one number", INDEX, () -> x.filtered(8, 0));
+        Check.refused("18: no node", INDEX, () -> x.filtered(6, 0));
+        Check.same("18: refused calls leave the bands", Check.stateOf(x), untouched);
         x.begin(16);
         x.split(1);
         x.split(2);
@@ -127,9 +137,11 @@ public final class NumbersTest {
         Check.same("18: a node that cannot be split", x.filtered(9, 0), -7);
         x.join(1);
         x.setWavelet(2);
-        Check.refused("18: wavelet 2", x, STATE, () -> x.filtered(1, 0));
-        Check.refused("18: wavelet 2, place first", x, INDEX, () -> x.filtered(1, 8));
-        Check.refused("18: wavelet 2, node first", x, INDEX, () -> x.filtered(2, 0));
+        untouched = Check.stateOf(x);
+        Check.refused("18: wavelet 2", STATE, () -> x.filtered(1, 0));
+        Check.refused("18: wavelet 2, place first", INDEX, () -> x.filtered(1, 8));
+        Check.refused("18: wavelet 2, node first", INDEX, () -> x.filtered(2, 0));
+        Check.same("18: refused calls leave the wavelet 2", Check.stateOf(x), untouched);
     }
 
     private static void promise19Hard() {
@@ -176,18 +188,20 @@ public final class NumbersTest {
 
     private static void thresholdRefusals(String promise, boolean soft) {
         LiftingWorkshop x = splitOnce();
+        String untouched = Check.stateOf(x);
         for (int threshold : new int[] {-1, 100001, Integer.MAX_VALUE, Integer.MIN_VALUE}) {
-            Check.refused(promise + ": threshold " + threshold, x, ARGUMENT,
+            Check.refused(promise + ": threshold " + threshold, ARGUMENT,
                     () -> apply(x, soft, 2, threshold));
-            Check.refused(promise + ": threshold before leaf", x, ARGUMENT,
+            Check.refused(promise + ": threshold before leaf", ARGUMENT,
                     () -> apply(x, soft, 1, threshold));
-            Check.refused(promise + ": node before threshold", x, INDEX,
+            Check.refused(promise + ": node before threshold", INDEX,
                     () -> apply(x, soft, 4, threshold));
         }
         for (int node : NO_NODES) {
-            Check.refused(promise + ": no node " + node, x, INDEX, () -> apply(x, soft, node, 1));
+            Check.refused(promise + ": no node " + node, INDEX, () -> apply(x, soft, node, 1));
         }
-        Check.refused(promise + ": no leaf", x, STATE, () -> apply(x, soft, 1, 1));
+        Check.refused(promise + ": no leaf", STATE, () -> apply(x, soft, 1, 1));
+        Check.same(promise + ": refused calls leave", Check.stateOf(x), untouched);
     }
 
     private static int apply(LiftingWorkshop x, boolean soft, int node, int threshold) {
@@ -207,18 +221,20 @@ public final class NumbersTest {
         Check.same("21: great numbers", x.risk(1, 1, 100000), 4 + 20000000000L + 36 - 8);
         x.split(1);
         Check.same("21: a band", x.risk(3, 2, 100000), 8 + 10000000000L + 36 - 8);
-        Check.refused("21: no leaf", x, STATE, () -> x.risk(1, 1, 1));
+        String untouched = Check.stateOf(x);
+        Check.refused("21: no leaf", STATE, () -> x.risk(1, 1, 1));
         for (int wrong : new int[] {-1, 100001, Integer.MAX_VALUE, Integer.MIN_VALUE}) {
-            Check.refused("21: threshold " + wrong, x, ARGUMENT, () -> x.risk(2, 1, wrong));
-            Check.refused("21: noise " + wrong, x, ARGUMENT, () -> x.risk(2, wrong, 1));
-            Check.refused("21: threshold before leaf", x, ARGUMENT, () -> x.risk(1, 1, wrong));
-            Check.refused("21: noise before leaf", x, ARGUMENT, () -> x.risk(1, wrong, 1));
-            Check.refused("21: node first", x, INDEX, () -> x.risk(4, wrong, wrong));
+            Check.refused("21: threshold " + wrong, ARGUMENT, () -> x.risk(2, 1, wrong));
+            Check.refused("21: noise " + wrong, ARGUMENT, () -> x.risk(2, wrong, 1));
+            Check.refused("21: threshold before leaf", ARGUMENT, () -> x.risk(1, 1, wrong));
+            Check.refused("21: noise before leaf", ARGUMENT, () -> x.risk(1, wrong, 1));
+            Check.refused("21: node first", INDEX, () -> x.risk(4, wrong, wrong));
         }
-        Check.refused("21: noise 1001", x, ARGUMENT, () -> x.risk(2, 1001, 1));
+        Check.refused("21: noise 1001", ARGUMENT, () -> x.risk(2, 1001, 1));
         for (int node : NO_NODES) {
-            Check.refused("21: no node " + node, x, INDEX, () -> x.risk(node, 1, 1));
+            Check.refused("21: no node " + node, INDEX, () -> x.risk(node, 1, 1));
         }
+        Check.same("21: refused calls leave", Check.stateOf(x), untouched);
     }
 
     private static void promise22BestThreshold() {
@@ -265,14 +281,16 @@ public final class NumbersTest {
 
     private static void bestThresholdRefusals() {
         LiftingWorkshop x = splitOnce();
-        Check.refused("22: no leaf", x, STATE, () -> x.bestThreshold(1, 1));
+        String untouched = Check.stateOf(x);
+        Check.refused("22: no leaf", STATE, () -> x.bestThreshold(1, 1));
         for (int noise : new int[] {-1, 1001, Integer.MAX_VALUE, Integer.MIN_VALUE}) {
-            Check.refused("22: noise " + noise, x, ARGUMENT, () -> x.bestThreshold(2, noise));
-            Check.refused("22: noise before leaf", x, ARGUMENT, () -> x.bestThreshold(1, noise));
-            Check.refused("22: node first", x, INDEX, () -> x.bestThreshold(4, noise));
+            Check.refused("22: noise " + noise, ARGUMENT, () -> x.bestThreshold(2, noise));
+            Check.refused("22: noise before leaf", ARGUMENT, () -> x.bestThreshold(1, noise));
+            Check.refused("22: node first", INDEX, () -> x.bestThreshold(4, noise));
         }
         for (int node : NO_NODES) {
-            Check.refused("22: no node " + node, x, INDEX, () -> x.bestThreshold(node, 1));
+            Check.refused("22: no node " + node, INDEX, () -> x.bestThreshold(node, 1));
         }
+        Check.same("22: refused calls leave", Check.stateOf(x), untouched);
     }
 }

@@ -29,10 +29,12 @@ public final class SignalTest {
             Check.same("2: size of the root", x.sizeOf(1), length);
             before = length;
         }
+        String untouched = Check.stateOf(x);
         for (int length : new int[] {0, 1, 2, 3, 5, 6, 7, 12, 31, 33, 64, -4, -8,
                 Integer.MAX_VALUE, Integer.MIN_VALUE}) {
-            Check.refused("2: begin(" + length + ")", x, ARGUMENT, () -> x.begin(length));
+            Check.refused("2: begin(" + length + ")", ARGUMENT, () -> x.begin(length));
         }
+        Check.same("2: refused calls leave", Check.stateOf(x), untouched);
         LiftingWorkshop y = Check.with(1, 1, 2, 3, 4, 5, 6, 7, 8);
         y.split(1);
         y.split(3);
@@ -59,21 +61,25 @@ public final class SignalTest {
         Check.same("3: the root holds it", x.number(1, 7), 5);
         x.setNumber(1, 3, 100000);
         Check.same("3: the sample before may be greater", x.setSample(3, 1), 100000);
+        String untouched = Check.stateOf(x);
         for (int place : new int[] {-1, 8, 32, Integer.MAX_VALUE, Integer.MIN_VALUE}) {
-            Check.refused("3: place " + place, x, INDEX, () -> x.setSample(place, 1));
-            Check.refused("3: place first", x, INDEX, () -> x.setSample(place, 1001));
+            Check.refused("3: place " + place, INDEX, () -> x.setSample(place, 1));
+            Check.refused("3: place first", INDEX, () -> x.setSample(place, 1001));
         }
         for (int value : new int[] {1001, -1001, Integer.MAX_VALUE, Integer.MIN_VALUE}) {
-            Check.refused("3: value " + value, x, ARGUMENT, () -> x.setSample(0, value));
+            Check.refused("3: value " + value, ARGUMENT, () -> x.setSample(0, value));
         }
+        Check.same("3: refused calls leave", Check.stateOf(x), untouched);
         x.split(1);
-        Check.refused("3: split root", x, STATE, () -> x.setSample(0, 1));
-        Check.refused("3: split root, value first", x, ARGUMENT, () -> x.setSample(0, 1001));
-        Check.refused("3: split root, place first", x, INDEX, () -> x.setSample(8, 1001));
+        untouched = Check.stateOf(x);
+        Check.refused("3: split root", STATE, () -> x.setSample(0, 1));
+        Check.refused("3: split root, value first", ARGUMENT, () -> x.setSample(0, 1001));
+        Check.refused("3: split root, place first", INDEX, () -> x.setSample(8, 1001));
+        Check.same("3: refused calls leave the bands", Check.stateOf(x), untouched);
         x.join(1);
         Check.same("3: after a join", x.setSample(7, 6), 5);
         x.begin(4);
-        Check.refused("3: place 4 of 4", x, INDEX, () -> x.setSample(4, 1));
+        Check.refused("3: place 4 of 4", INDEX, () -> x.setSample(4, 1));
     }
 
     private static void promise4Sample() {
@@ -91,9 +97,11 @@ public final class SignalTest {
         x.split(1);
         x.setNumber(3, 0, 0);
         Check.same("4: after an edit", Check.samples(x), "1 1 7 8");
+        String untouched = Check.stateOf(x);
         for (int place : new int[] {-1, 4, 8, Integer.MAX_VALUE, Integer.MIN_VALUE}) {
-            Check.refused("4: sample " + place, x, INDEX, () -> x.sample(place));
+            Check.refused("4: sample " + place, INDEX, () -> x.sample(place));
         }
+        Check.same("4: refused calls leave", Check.stateOf(x), untouched);
     }
 
     private static void promise5Length() {
@@ -112,13 +120,17 @@ public final class SignalTest {
         Check.same("6: setWavelet the same", x.setWavelet(1), 1);
         Check.same("6: setWavelet back", x.setWavelet(0), 1);
         x.setWavelet(2);
+        String untouched = Check.stateOf(x);
         for (int wavelet : new int[] {-1, 3, Integer.MAX_VALUE, Integer.MIN_VALUE}) {
-            Check.refused("6: wavelet " + wavelet, x, ARGUMENT, () -> x.setWavelet(wavelet));
+            Check.refused("6: wavelet " + wavelet, ARGUMENT, () -> x.setWavelet(wavelet));
         }
+        Check.same("6: refused calls leave", Check.stateOf(x), untouched);
         x.split(1);
-        Check.refused("6: split root", x, STATE, () -> x.setWavelet(2));
-        Check.refused("6: split root, other wavelet", x, STATE, () -> x.setWavelet(0));
-        Check.refused("6: split root, wavelet first", x, ARGUMENT, () -> x.setWavelet(3));
+        untouched = Check.stateOf(x);
+        Check.refused("6: split root", STATE, () -> x.setWavelet(2));
+        Check.refused("6: split root, other wavelet", STATE, () -> x.setWavelet(0));
+        Check.refused("6: split root, wavelet first", ARGUMENT, () -> x.setWavelet(3));
+        Check.same("6: refused calls leave the bands", Check.stateOf(x), untouched);
         x.join(1);
         Check.same("6: the wavelet stayed", x.setWavelet(0), 2);
     }

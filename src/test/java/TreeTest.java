@@ -68,9 +68,11 @@ public final class TreeTest {
 
     private static void promise7SplitTree() {
         LiftingWorkshop x = new LiftingWorkshop();
+        String untouched = Check.stateOf(x);
         for (int node : NO_NODES) {
-            Check.refused("7: split " + node, x, INDEX, () -> x.split(node));
+            Check.refused("7: split " + node, INDEX, () -> x.split(node));
         }
+        Check.same("7: refused calls leave", Check.stateOf(x), untouched);
         x.split(1);
         Check.refused("7: split twice", x, STATE, () -> x.split(1));
         x.split(3);
@@ -90,7 +92,7 @@ public final class TreeTest {
         Check.same("7: split 1 of 32", big.split(1), 16);
         Check.same("7: split 3 of 32", big.split(3), 8);
         Check.same("7: split 7 of 32", big.split(7), 4);
-        Check.refused("7: 4 numbers, but number 15", big, STATE, () -> big.split(15));
+        Check.refused("7: 4 numbers, but number 15", STATE, () -> big.split(15));
         big.split(2);
         big.split(4);
         Check.refused("7: 4 numbers, but number 8", big, STATE, () -> big.split(8));
@@ -98,10 +100,12 @@ public final class TreeTest {
 
     private static void promise8Join() {
         LiftingWorkshop x = Check.with(2, 100, -3, 999, -1000, 6, 0, 1, 2);
+        String untouched = Check.stateOf(x);
         for (int node : NO_NODES) {
-            Check.refused("8: join " + node, x, INDEX, () -> x.join(node));
+            Check.refused("8: join " + node, INDEX, () -> x.join(node));
         }
-        Check.refused("8: join a leaf", x, STATE, () -> x.join(1));
+        Check.refused("8: join a leaf", STATE, () -> x.join(1));
+        Check.same("8: refused calls leave", Check.stateOf(x), untouched);
         for (int node = 1; node < 8; node++) {
             x.split(node);
         }
@@ -149,9 +153,11 @@ public final class TreeTest {
     private static void promise10IsLeaf() {
         LiftingWorkshop x = new LiftingWorkshop();
         Check.same("10: root", x.isLeaf(1), true);
+        String untouched = Check.stateOf(x);
         for (int node : NO_NODES) {
-            Check.refused("10: isLeaf " + node, x, INDEX, () -> x.isLeaf(node));
+            Check.refused("10: isLeaf " + node, INDEX, () -> x.isLeaf(node));
         }
+        Check.same("10: refused calls leave", Check.stateOf(x), untouched);
         x.split(1);
         x.split(2);
         Check.same("10: split root", x.isLeaf(1), false);
@@ -181,9 +187,11 @@ public final class TreeTest {
         x.split(7);
         Check.same("11: all leaves", x.leaves(), 8);
         Check.same("12: all leaves", Check.leaves(x), "8 9 10 11 12 13 14 15");
+        String untouched = Check.stateOf(x);
         for (int place : new int[] {-1, 8, 9, Integer.MAX_VALUE, Integer.MIN_VALUE}) {
-            Check.refused("12: leafAt " + place, x, INDEX, () -> x.leafAt(place));
+            Check.refused("12: leafAt " + place, INDEX, () -> x.leafAt(place));
         }
+        Check.same("12: refused calls leave", Check.stateOf(x), untouched);
         LiftingWorkshop small = Check.with(0, 1, 2, 3, 4);
         small.split(1);
         small.split(3);
@@ -194,9 +202,11 @@ public final class TreeTest {
     private static void promise13CostOf() {
         LiftingWorkshop x = Check.with(0, 0, 1, -1, 2, -3, 4, 7, -8);
         Check.same("13: cost", x.costOf(1), 0 + 1 + 1 + 2 + 2 + 3 + 3 + 4);
+        String untouched = Check.stateOf(x);
         for (int node : NO_NODES) {
-            Check.refused("13: costOf " + node, x, INDEX, () -> x.costOf(node));
+            Check.refused("13: costOf " + node, INDEX, () -> x.costOf(node));
         }
+        Check.same("13: refused calls leave", Check.stateOf(x), untouched);
         LiftingWorkshop y = Check.with(0, 5, -2, 7, 8);
         y.split(1);
         Check.same("13: cost of a low band", y.costOf(2), 1 + 3);
@@ -221,9 +231,11 @@ public final class TreeTest {
         Check.same("14: levels 1, leaves", Check.leaves(x), "2 3");
         Check.same("14: levels 2", x.chooseBasis(2), 5);
         Check.same("14: levels 2, leaves", Check.leaves(x), "4 5 3");
+        String untouched = Check.stateOf(x);
         for (int levels : new int[] {0, 4, -1, Integer.MAX_VALUE, Integer.MIN_VALUE}) {
-            Check.refused("14: levels " + levels, x, ARGUMENT, () -> x.chooseBasis(levels));
+            Check.refused("14: levels " + levels, ARGUMENT, () -> x.chooseBasis(levels));
         }
+        Check.same("14: refused calls leave", Check.stateOf(x), untouched);
         Check.same("14: samples stay", Check.samples(x), "1 1 1 1 9 9 9 9");
 
         LiftingWorkshop zero = new LiftingWorkshop();
