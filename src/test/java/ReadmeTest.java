@@ -6,7 +6,6 @@ import java.nio.file.Files;
 import java.nio.file.Path;
 import java.util.regex.Matcher;
 import java.util.regex.Pattern;
-import javax.tools.ToolProvider;
 
 /** The example of README.md compiles, and prints what README.md says. */
 public final class ReadmeTest {
@@ -20,9 +19,8 @@ public final class ReadmeTest {
         Path compiled = place.resolve(EXAMPLE + ".class");
         try {
             Files.writeString(source, block(readme, "java"));
-            int failed = ToolProvider.getSystemJavaCompiler().run(null, null, null,
-                    "-cp", System.getProperty("java.class.path"), "-d", place.toString(),
-                    source.toString());
+            int failed = new ProcessBuilder("javac", "-cp", System.getProperty("java.class.path"),
+                    "-d", place.toString(), source.toString()).inheritIO().start().waitFor();
             Check.same("the compiler", failed, 0);
             if (failed == 0) {
                 Check.same("the example", printedBy(place), block(readme, "text"));
